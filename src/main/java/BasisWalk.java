@@ -3,6 +3,9 @@ import java.util.Arrays;
 /**
  * Four tables of numbers over the rationals or a prime field, and what is told by which of their
  * columns depend on one another. Sets of columns are sums of 2^e for columns e.
+ *
+ * <p>All arrays are made with the object, long enough for twelve columns, and used again by every
+ * call: what calls make is counted, and so they make nothing.
  */
 public final class BasisWalk {
     public static final int NONE = -1;
@@ -10,6 +13,9 @@ public final class BasisWalk {
     private static final int TABLES = 4;
     private static final int MOST_LINES = 12;
     private static final int SIZES = MOST_LINES + 1;
+    private static final int MOST_SETS = 1 << MOST_LINES;
+    /** Of twelve columns six. */
+    private static final int MOST_SETS_OF_ONE_SIZE = 924;
     private static final int MOST_NUMBER = 999;
     private static final int MOST_PRIME = 251;
     private static final int NO_SIGN = 2;
@@ -191,12 +197,12 @@ public final class BasisWalk {
     /** All sets of so many columns in ORDER; those of one size stand together. */
     private static final class Order {
         private int columnCount;
-        private int[] sets;
+        private final int[] sets;
         private final int[] starts;
         private final int[] nexts;
 
         Order() {
-            sets = new int[1];
+            sets = new int[MOST_SETS];
             starts = new int[SIZES + 1];
             starts[1] = 1;
             nexts = new int[SIZES];
@@ -208,9 +214,6 @@ public final class BasisWalk {
             }
             columnCount = newColumnCount;
             int all = 1 << columnCount;
-            if (sets.length < all) {
-                sets = new int[all];
-            }
             for (int size = 0; size <= columnCount; size++) {
                 nexts[size] = starts[size];
                 starts[size + 1] = starts[size] + choose(columnCount, size);
@@ -250,23 +253,18 @@ public final class BasisWalk {
         private static final int DIGIT_BITS = 48;
         private static final long DIGIT_MASK = (1L << DIGIT_BITS) - 1;
 
-        private long[] low;
-        private long[] middle;
-        private long[] high;
+        private final long[] low;
+        private final long[] middle;
+        private final long[] high;
 
         Minors() {
-            low = new long[1];
-            middle = new long[1];
-            high = new long[1];
+            low = new long[MOST_SETS];
+            middle = new long[MOST_SETS];
+            high = new long[MOST_SETS];
         }
 
         /** No row taken: the determinant of nothing is 1. */
-        void restart(int all) {
-            if (low.length < all) {
-                low = new long[all];
-                middle = new long[all];
-                high = new long[all];
-            }
+        void restart() {
             low[0] = 1;
             middle[0] = 0;
             high[0] = 0;
@@ -325,23 +323,24 @@ public final class BasisWalk {
     private static final class Study {
         private int columnCount;
         private int fullRank;
-        private int[] ranks;
-        private int[] signs;
-        private int[] members;
+        private final int[] ranks;
+        private final int[] signs;
+        private final int[] members;
         private final int[] starts;
         private final int[] defects;
 
         Study() {
-            ranks = new int[1];
-            signs = new int[1];
-            members = new int[KINDS];
+            ranks = new int[MOST_SETS];
+            signs = new int[MOST_SETS];
+            // Bases, circuits and cocircuits lie never one inside another of their kind, so
+            // (Sperner) there are no more of each than of the sets of the middle size.
+            members = new int[MOST_SETS + 3 * MOST_SETS_OF_ONE_SIZE];
             starts = new int[KINDS + 1];
             defects = new int[SIZES * SIZES];
         }
 
         void learn(Table table, Order order, Minors minors) {
             columnCount = table.columnCount;
-            makeRoom();
             fullRank = takeRows(table, order, minors);
             learnSigns(order, minors);
             markIndependent();
@@ -401,19 +400,8 @@ public final class BasisWalk {
             return wide;
         }
 
-        private void makeRoom() {
-            int all = 1 << columnCount;
-            if (ranks.length < all) {
-                ranks = new int[all];
-                signs = new int[all];
-                // Bases, circuits and cocircuits lie never one inside another of their kind, so
-                // (Sperner) there are no more of each than of the sets of the middle size.
-                members = new int[all + 3 * choose(columnCount, columnCount / 2)];
-            }
-        }
-
         private int takeRows(Table table, Order order, Minors minors) {
-            minors.restart(1 << columnCount);
+            minors.restart();
             int taken = 0;
             for (int row = 0; row < table.rowCount && taken < columnCount; row++) {
                 if (minors.takeRow(table, row, order, taken + 1)) {
